@@ -1,0 +1,137 @@
+import java.lang.reflect.Constructor;
+import java.lang.reflect.Field;
+import java.lang.reflect.Method;
+import java.lang.reflect.Modifier;
+import java.nio.file.Files;
+import java.nio.file.Path;
+import java.util.ArrayList;
+import java.util.List;
+import java.util.Set;
+import java.util.TreeSet;
+import java.util.regex.Matcher;
+import java.util.regex.Pattern;
+
+/** The public face as the document tells it, and the rules of LANGUAGE.md that can be looked up. */
+public final class LanguageTest {
+    private static final String FACE = "int feed(int,int)|int wipe()|int text()|int steps(int)|int step(int,int,int)"
+        + "|int as(int,int,int)|int change(int,int,int)|int cell(int,int)|int machine(int)|int hand(int,int)|int clear()"
+        + "|int states()|int ends()|int result(int)|int orders()|int inOrder(int)|int bad()|int worst()|int turn(int)"
+        + "|int stuck()|int round()|int heal(int,int)|int fences()|int cost(int)|int played(int)|int judge(int)|int moves(int)"
+        + "|int after(int,int)|int sheet(int,int,int)|long write(int,int,long)|int copy(int,int,int,int,int)|int lead(int)"
+        + "|int image()|int undo()|int tear()|int look(int)|int status(int)";
+
+    private static final List<String> wrong = new ArrayList<>();
+
+    private static void check(boolean holds, String what) {
+        if (!holds) {
+            wrong.add(what);
+        }
+    }
+
+    private static String shape(Method m) {
+        StringBuilder t = new StringBuilder(m.getReturnType().getSimpleName() + " " + m.getName() + "(");
+        for (int i = 0; i < m.getParameterCount(); i++) {
+            t.append(i == 0 ? "" : ",").append(m.getParameterTypes()[i].getSimpleName());
+        }
+        return t.append(')').toString();
+    }
+
+    private static void face() {
+        Set<String> want = new TreeSet<>(List.of(FACE.split("\\|")));
+        Set<String> got = new TreeSet<>();
+        Set<String> names = new TreeSet<>();
+        for (Method m : ManyHands.class.getDeclaredMethods()) {
+            if (Modifier.isPublic(m.getModifiers())) {
+                got.add(shape(m));
+                names.add(m.getName());
+                check(!Modifier.isStatic(m.getModifiers()), "static: " + m);
+            } else {
+                check(Modifier.isPrivate(m.getModifiers()), "not private: " + m);
+            }
+        }
+        check(want.equals(got), "rule 1: the face is " + got);
+        check(Modifier.isFinal(ManyHands.class.getModifiers()) && Modifier.isPublic(ManyHands.class.getModifiers()), "public final");
+        Constructor<?>[] made = ManyHands.class.getDeclaredConstructors();
+        check(made.length == 1 && made[0].getParameterCount() == 0 && Modifier.isPublic(made[0].getModifiers()), "one constructor");
+        List<Class<?>> classes = new ArrayList<>(List.of(ManyHands.class.getDeclaredClasses()));
+        check(classes.size() + 1 <= 12, "rule 11: classes");
+        for (Class<?> c : classes) {
+            check(Modifier.isStatic(c.getModifiers()), "rule 2: not static " + c);
+            for (Method m : c.getDeclaredMethods()) {
+                check(!names.contains(m.getName()), "rule 1: a name of the face: " + m);
+            }
+        }
+        classes.add(ManyHands.class);
+        for (Class<?> c : classes) {
+            members(c);
+        }
+    }
+
+    private static void members(Class<?> c) {
+        int fields = 0;
+        for (Field f : c.getDeclaredFields()) {
+            boolean isStatic = Modifier.isStatic(f.getModifiers());
+            fields += isStatic ? 0 : 1;
+            check(!isStatic || Modifier.isFinal(f.getModifiers()), "rule 5: " + f);
+            Class<?> type = f.getType().isArray() ? f.getType().getComponentType() : f.getType();
+            check(!isStatic || type.isPrimitive() || type == String.class, "rule 5: " + f);
+            check(c != ManyHands.class || Modifier.isPrivate(f.getModifiers()), "rule 1: " + f);
+        }
+        check(fields <= 20, "rule 11: fields of " + c);
+        for (Method m : c.getDeclaredMethods()) {
+            check(m.getParameterCount() <= 7, "rule 11: parameters of " + m);
+            check(!m.isSynthetic(), "rule 2: made by the compiler: " + m);
+        }
+    }
+
+    private static void source() throws Exception {
+        String text = Files.readString(Path.of("src/main/java/ManyHands.java"));
+        String bare = text.replaceAll("(?s)/\\*.*?\\*/", "").replaceAll("//[^\n]*", "").replaceAll("\"[^\"\n]*\"", "\"\"");
+        String[] never = {"throw", "throws", "try", "catch", "finally", "synchronized", "assert", "volatile", "transient", "native",
+            "package", "protected", "instanceof", "hashCode", "toString", "Object", "var", "while", "Thread", "Random"};
+        for (String word : never) {
+            check(!Pattern.compile("\\b" + word + "\\b").matcher(bare).find(), "the word " + word);
+        }
+        check(!bare.contains("->") && !bare.contains("::"), "rule 2: lambda or method reference");
+        check(!bare.contains("Exact"), "rule 4: Exact");
+        Matcher imports = Pattern.compile("(?m)^import (.*);").matcher(bare);
+        while (imports.find()) {
+            check(imports.group(1).equals("java.util.Arrays"), "rule 4: import " + imports.group(1));
+        }
+        Matcher library = Pattern.compile("\\b(Arrays|System|Math|Integer|Long|List|ArrayList)\\.(\\w+)").matcher(bare);
+        while (library.find()) {
+            check(Set.of("Arrays.fill", "System.arraycopy", "Math.min", "Math.max", "Integer.bitCount").contains(library.group()),
+                "rule 4: " + library.group());
+        }
+        for (int i = 0; i < text.length(); i++) {
+            check(text.charAt(i) < 128, "rule 4: a sign above 127");
+        }
+        lengths(bare);
+    }
+
+    /** Methods are what stands between braces at 4 or 8 blanks. */
+    private static void lengths(String bare) {
+        String[] lines = bare.split("\n");
+        for (String indent : new String[] {"    ", "        "}) {
+            int begun = -1;
+            for (int i = 0; i < lines.length; i++) {
+                boolean opens = lines[i].startsWith(indent) && !lines[i].startsWith(indent + " ") && lines[i].endsWith(") {");
+                begun = opens ? i : begun;
+                if (begun >= 0 && lines[i].equals(indent + "}")) {
+                    check(i - begun <= 60, "rule 11: a long method at [" + lines[begun].trim() + "]");
+                    begun = -1;
+                }
+            }
+        }
+    }
+
+    public static void main(String[] args) throws Exception {
+        face();
+        source();
+        for (String what : wrong) {
+            System.out.println("not as it should be: " + what);
+        }
+        System.out.println(wrong.isEmpty() ? "the face and the rules hold" : wrong.size() + " rules are broken");
+        if (!wrong.isEmpty()) System.exit(1);
+    }
+}
