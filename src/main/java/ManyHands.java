@@ -46,24 +46,24 @@ public final class ManyHands {
     private static final long CANNOT = -1L;
 
     private final Findings findings;
-    private final Tape tape;
     private final Reader reader;
+    private final Tape tape;
+    private final Study study;
     private final Setup now;
     private final Setup kept;
     private boolean isKept;
-    private final Study study;
     private final Play play;
     private final Sheet[] sheets;
 
     public ManyHands() {
         findings = new Findings();
-        tape = new Tape();
-        reader = new Reader(tape);
-        now = new Setup();
+        reader = new Reader();
+        tape = reader.tape;
+        study = new Study();
+        now = study.setup;
         kept = new Setup();
         isKept = false;
-        study = new Study(now);
-        play = new Play(study.machine);
+        play = new Play();
         sheets = new Sheet[SHEETS];
         for (int s = 0; s < SHEETS; s++) {
             sheets[s] = new Sheet();
@@ -458,7 +458,7 @@ public final class ManyHands {
             return MISSING;
         }
         study.machine.load(now, 0L);
-        play.through(sheets[s]);
+        play.through(sheets[s], study.machine);
         return play.done < sheets[s].size ? STATE : -1;
     }
 
@@ -501,15 +501,11 @@ public final class ManyHands {
         /** Above every NUMBER that can stand anywhere, so that a long one can't wrap into one that can. */
         private static final int TOO_HIGH = 1000;
 
-        private final Tape tape;
+        final Tape tape = new Tape();
         private int at;
         private int start;
         private int token;
         private int number;
-
-        Reader(Tape tape) {
-            this.tape = tape;
-        }
 
         /** Makes THE TAPE the next CALL, for which there must be room: the FAULT, or -1. */
         int faultOfNewCall(Setup setup) {
@@ -1169,7 +1165,7 @@ public final class ManyHands {
         static final int NOT_ANY = -1;
         static final int TOO_LARGE = -2;
 
-        private final Setup setup;
+        final Setup setup = new Setup();
         final Machine machine = new Machine();
         final Turns turns = new Turns();
         final Row endResults = new Row(MOST_STATES);
@@ -1177,10 +1173,6 @@ public final class ManyHands {
         private final int[] fencePlaces = new int[MOST_FENCES];
         private boolean knowsTurns;
         private boolean knowsOrders;
-
-        Study(Setup setup) {
-            this.setup = setup;
-        }
 
         void forget() {
             knowsTurns = false;
@@ -1341,17 +1333,12 @@ public final class ManyHands {
 
     /** A told TURN, done as far as it can be. */
     private static final class Play {
-        private final Machine machine;
         private final int[] latestHands = new int[CELLS];
         long state;
         int done;
         int price;
 
-        Play(Machine machine) {
-            this.machine = machine;
-        }
-
-        void through(Sheet sheet) {
+        void through(Sheet sheet, Machine machine) {
             Arrays.fill(latestHands, -1);
             state = machine.first;
             done = 0;
@@ -1362,7 +1349,7 @@ public final class ManyHands {
                 if (next == CANNOT) {
                     break;
                 }
-                price += priceOf(move);
+                price += priceOf(move, machine.touched(state, move));
                 state = next;
                 done++;
             }
@@ -1376,8 +1363,7 @@ public final class ManyHands {
             return number >= 10L && number < 10L + MOST_HANDS ? (int) number - 10 + MOST_HANDS : -1;
         }
 
-        private int priceOf(int move) {
-            int cell = machine.touched(state, move);
+        private int priceOf(int move, int cell) {
             if (cell < 0 || cell >= CELLS) {
                 return 1;
             }
