@@ -704,9 +704,9 @@ public final class ManyHands {
         /** A CALL alone has at most this many STATES; doing more STEPS, it was in one of them before. */
         private static final int MOST_ALONE = (MOST_STEPS + MOST_FENCES) * 16 * 64;
 
-        private int hands;
-        private boolean isLate;
-        private long first;
+        int hands;
+        boolean isLate;
+        long first;
         private final int[] code = new int[MOST_HANDS * PLACES * PARTS];
         private final int[] placesOfSteps = new int[MOST_STEPS];
         /** Where each HAND's second CALL begins, if it has one, and where all its STEPS are done. */
@@ -1183,25 +1183,26 @@ public final class ManyHands {
             if (!knowsOrders) {
                 machine.load(setup, 0L);
                 orderResults.size = 0;
-                followOrders(machine.first, 0);
+                followOrders(machine, orderResults, machine.first, 0);
                 knowsOrders = true;
             }
             return orderResults;
         }
 
-        private void followOrders(long state, int depth) {
+        /** Goes on from a STATE between whole CALLS; no order has more CALLS than depth can count. */
+        private static void followOrders(Machine machine, Row results, long state, int depth) {
             boolean isWhole = true;
-            for (int h = 0; h < setup.hands; h++) {
+            for (int h = 0; h < machine.hands; h++) {
                 if (machine.hasCallLeft(state, h)) {
                     isWhole = false;
                     long next = machine.withCallDone(state, h);
                     if (next != CANNOT && depth < 2 * MOST_HANDS) {
-                        followOrders(next, depth + 1);
+                        followOrders(machine, results, next, depth + 1);
                     }
                 }
             }
             if (isWhole) {
-                orderResults.include(machine.resultOf(state));
+                results.include(machine.resultOf(state));
             }
         }
 
@@ -1268,10 +1269,16 @@ public final class ManyHands {
 
         /** A set of WRITES, NOT_ANY or TOO_LARGE. FENCES leave what orders give as it is. */
         int fewestFences() {
-            int places = findFencePlaces();
             Row good = orderedResults();
+            if (isTooLarge()) {
+                return TOO_LARGE;
+            }
+            if (leastBad(good) < 0) {
+                return 0;
+            }
+            int places = findFencePlaces();
             int answer = NOT_ANY;
-            for (int size = 0; size <= places && answer == NOT_ANY; size++) {
+            for (int size = 1; size <= places && answer == NOT_ANY; size++) {
                 for (int set = 0; set < 1 << places && answer == NOT_ANY; set++) {
                     if (Integer.bitCount(set) == size) {
                         answer = tryFences(set, places, good);
