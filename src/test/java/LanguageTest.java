@@ -1,3 +1,4 @@
+import java.lang.management.ManagementFactory;
 import java.lang.reflect.Constructor;
 import java.lang.reflect.Field;
 import java.lang.reflect.Method;
@@ -125,9 +126,38 @@ public final class LanguageTest {
         }
     }
 
+    /** The dearest calls, 500 of them: a run has room for 7.3 million elements, of which calls take none. */
+    private static void room() {
+        if (!(ManagementFactory.getThreadMXBean() instanceof com.sun.management.ThreadMXBean)) {
+            return;
+        }
+        com.sun.management.ThreadMXBean counter = (com.sun.management.ThreadMXBean) ManagementFactory.getThreadMXBean();
+        long thread = Thread.currentThread().getId();
+        long begin = counter.getThreadAllocatedBytes(thread);
+        ManyHands x = new ManyHands();
+        long made = counter.getThreadAllocatedBytes(thread);
+        for (String text : new String[] {"put 0 1;keep;put 1 1", "read 1;keep;read 0", "put 1 2;read 0;put 2 1"}) {
+            for (int i = 0; i < text.length(); i++) {
+                x.feed(text.charAt(i), 1);
+            }
+            x.hand(x.text(), -1);
+        }
+        x.machine(1);
+        for (int i = 0; i < 50; i++) {
+            check(x.heal(0, 0) >= 0 && x.fences() != 0 && x.states() > 0 && x.bad() > 0, "room: there is something to do");
+            check(x.stuck() == 0 && x.round() == 0 && x.lead(0) > 0 && x.judge(0) == 1, "room: there is a turn");
+            check(x.image() == 1 && x.undo() == 3, "room: there is an image");
+        }
+        long done = counter.getThreadAllocatedBytes(thread);
+        // The Java machine itself may take a little while it warms up; a row of 6000 each time would show.
+        check(made - begin < 1000000, "rule 12: an object takes " + (made - begin) + " bytes");
+        check(done - made < 100000, "rule 12: calls take " + (done - made) + " bytes");
+    }
+
     public static void main(String[] args) throws Exception {
         face();
         source();
+        room();
         for (String what : wrong) {
             System.out.println("not as it should be: " + what);
         }

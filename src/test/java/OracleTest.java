@@ -993,7 +993,7 @@ public final class OracleTest {
             case 1: same(seed, "step(" + c + "," + k + "," + v + ")", x.step(c, k, v), m.step(c, k, v)); break;
             case 2: same(seed, "as(" + c + "," + k + "," + w + ")", x.as(c, k, w), m.as(c, k, w)); break;
             case 3: same(seed, "change(" + c + "," + k + "," + v + ")", x.change(c, k, v), m.change(c, k, v)); break;
-            case 4: same(seed, "cell(" + near(new Random(7), 3) + ")", x.cell(w - 1, v), m.cell(w - 1, v)); break;
+            case 4: same(seed, "cell(" + (w - 1) + "," + v + ")", x.cell(w - 1, v), m.cell(w - 1, v)); break;
             case 5: {
                 int which = near(r, 2);
                 same(seed, "machine(" + which + ")", x.machine(which), m.machine(which));

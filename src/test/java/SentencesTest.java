@@ -440,6 +440,9 @@ public final class SentencesTest {
         fault("keeP", 0);
         fault("keepP", 4);
         fault("keep;Keep", 5);
+        fault("keepz", 0);
+        fault("keepa", 0);
+        fault("zkeep", 0);
         fault("`", 0);
         fault("{", 0);
         fault("keep`", 4);
@@ -458,6 +461,10 @@ public final class SentencesTest {
         fault("set -1", 4);
         good("set 0");
         fault("set 9", 4);
+        fault("set 19", 4);
+        fault("set 09", 4);
+        fault("read 90", 5);
+        good("again 0000000");
     }
 
     @Says(at = TERMS, words = "blanks may stand between")
@@ -563,6 +570,21 @@ public final class SentencesTest {
         fault("a", 0);
         fault("reads 0", 0);
         fault("fences", 0);
+    }
+
+    @Says(at = TERMS, words = "a WORD that is none of these")
+    static void wordsAreKnownByEachLetter() {
+        String[] texts = {"read 0", "write 0", "put 0 0", "swap 0 0 0", "add 0 0", "fence", "set 0", "keep", "again 0"};
+        for (String text : texts) {
+            good(text);
+            for (int i = 0; Character.isLetter(text.charAt(i)); i++) {
+                fault(text.substring(0, i) + "q" + text.substring(i + 1), 0);
+                fault(text.substring(0, i) + text.substring(i + 1), 0);
+                if (i + 1 == text.length()) {
+                    break;
+                }
+            }
+        }
     }
 
     @Says(at = TERMS, words = "the WORD of an eighth STEP")
@@ -673,6 +695,12 @@ public final class SentencesTest {
     @Says(at = TERMS, words = "0 STEP (keep: B becomes A)")
     static void keeping() {
         comesTo(tell(hands(0, "set 3;keep;set 1"), 0, 0, 0), "00013");
+        for (int was = 0; was < 4; was++) {
+            for (int v = 0; v < 4; v++) {
+                comesTo(tell(hands(0, "set " + was + ";keep;set " + v + ";keep"), 0, 0, 0, 0), "000" + v + v);
+                comesTo(tell(hands(0, "set " + was + ";keep;set " + v), 0, 0, 0), "000" + v + was);
+            }
+        }
     }
 
     @Says(at = TERMS, words = "1 READ under STEP (read: A becomes what the HAND sees in the CELL)")
@@ -691,6 +719,9 @@ public final class SentencesTest {
         comesTo(tell(hands(0, "set 2;keep;set 1;write 1"), 0, 0, 0, 0), "02012");
         comesTo(tell(hands(0, "put 2 3"), 0), "00300");
         comesTo(tell(hands(0, "put 2 3;put 2 0"), 0, 0), "00000");
+        // A put of 0 is no write of B.
+        comesTo(tell(hands(0, "set 3;keep;put 1 0"), 0, 0, 0), "00033");
+        comesTo(tell(hands(1, "set 3;keep;put 1 0"), 0, 0, 0, 10), "00033");
         comesTo(tell(hands(1, "set 2;keep;write 1;set 3;keep"), 0, 0, 0, 0, 0, 10), "02033");
     }
 
@@ -758,6 +789,23 @@ public final class SentencesTest {
         ManyHands z = hands(1, "put 0 0;read 0");
         z.cell(0, 3);
         due(0, tell(z, 0, 0).after(0, 10));
+    }
+
+    @Says(at = TERMS, words = "a HAND sees in a CELL what its latest WAITING write to it would make of it, if there is one")
+    static void seesItsOwnInEachCell() {
+        for (int i = 0; i < 12 * 12; i++) {
+            int firstCell = i / 48;
+            int firstValue = i / 12 % 4;
+            int cell = i % 12 / 4;
+            int v = i % 4;
+            for (int seen = 0; seen < 3; seen++) {
+                ManyHands x = hands(1, "put " + firstCell + " " + firstValue + ";put " + cell + " " + v + ";read " + seen);
+                x.cell(seen, 2);
+                due(seen == cell ? v : seen == firstCell ? firstValue : 2, tell(x, 0, 0, 0).after(0, 10));
+                tell(x, 0, 0, 10, 10);
+                due(seen == cell ? v : seen == firstCell ? firstValue : 2, x.after(0, seen));
+            }
+        }
     }
 
     @Says(at = TERMS, words = "SWAP, ADD and FENCE can be done only if none of its own writes is WAITING")
@@ -904,6 +952,11 @@ public final class SentencesTest {
         ManyHands ends = hands(0, laps60 + "swap 1 0 0;again 0;add 2 1");
         due(1, ends.orders());
         due(Integer.parseInt("00100", 4), ends.inOrder(0));
+        // The longest that was found: 151 STEPS, each from another STATE.
+        ManyHands longest = hands(0, "add 2 3;add 1 3;again 0;add 0 1;again 1;swap 2 3 2;again 3");
+        due(152, longest.states());
+        due(1, longest.orders());
+        due(longest.result(0), longest.inOrder(0));
     }
 
     @Says(at = TERMS, words = "A RESULT is GOOD if some order gives it, else BAD.")
@@ -1378,6 +1431,22 @@ public final class SentencesTest {
         due(2, x.after(0, 34));
     }
 
+    @Says(at = 11, words = "A new HAND that does a CALL, and then another one (or the same; -1: none): its number.")
+    static void handIsSeenByAllTurns() {
+        ManyHands x = with("put 0 1", "put 0 2");
+        due(1, x.states());
+        due(0, x.inOrder(0));
+        x.hand(0, -1);
+        due(2, x.states());
+        due(256, x.result(0));
+        due(256, x.inOrder(0));
+        x.hand(1, -1);
+        due(5, x.states());
+        due(2, x.orders());
+        x.hand(0, 1);
+        due(2, x.ends());
+    }
+
     @Says(at = 11, words = "BEYOND.")
     static void handWithoutACall() {
         for (int call : new int[] {-1, -2, 3, LOW, HIGH}) {
@@ -1572,6 +1641,30 @@ public final class SentencesTest {
         due(NONE, x.inOrder(i));
     }
 
+    /** Three HANDS with two CALLS each, such that each of the 90 orders gives another RESULT. */
+    private static ManyHands ninetyOrders() {
+        ManyHands x = with("read 1;keep;add 0 3;add 0 2", "read 2;put 1 1;set 0;add 2 1", "set 0;put 0 0;add 2 3;add 1 2",
+            "read 2;add 1 3;add 2 1;add 1 2", "add 0 2;keep;write 2;write 1", "add 0 3;put 2 3;add 1 2;add 1 0");
+        for (int h = 0; h < 3; h++) {
+            x.hand(2 * h, 2 * h + 1);
+        }
+        return x;
+    }
+
+    @Says(at = 16, words = "How many unlike RESULTS orders give.")
+    static void ordersThatAreAllUnlike() {
+        due(90, ninetyOrders().orders());
+    }
+
+    @Says(at = 17, words = "The i-th of these (0 the least).")
+    static void inOrderOfNinety() {
+        ManyHands x = ninetyOrders();
+        for (int i = 1; i < 90; i++) {
+            due(true, x.inOrder(i - 1) < x.inOrder(i));
+        }
+        due(NONE, x.inOrder(90));
+    }
+
     @Says(at = 17, words = "The i-th of these (0 the least).")
     static void inOrderFromTheLeast() {
         ManyHands x = hands(1, "put 0 3", "put 0 1", "put 0 2");
@@ -1761,6 +1854,41 @@ public final class SentencesTest {
         due(0, hands(0, "put 0 0", "set 1;swap 0 0 0;again 1").round());
     }
 
+    @Says(at = 22, words = "1 if a TURN comes to a STATE in which it was, else 0.")
+    static void roundOfTheLastStateAlone() {
+        ManyHands x = hands(0, "keep;again 1");
+        due(2, x.states());
+        due(1, x.round());
+        due(2, x.stuck());
+        due(1, hands(0, "keep;keep;again 2").round());
+    }
+
+    @Says(at = 22, words = "1 if a TURN comes to a STATE in which it was, else 0.")
+    static void roundAndStuckBehindOtherQuestions() {
+        ManyHands x = torn("put 0 1");
+        for (int i = 0; i < 3; i++) {
+            due(4, x.turn(-1));
+            due(0, x.round());
+            due(1, x.turn(0));
+            due(0, x.stuck());
+        }
+        ManyHands lap = hands(0, "keep;again 0");
+        for (int i = 0; i < 3; i++) {
+            due(1, lap.round());
+            due(2, lap.stuck());
+        }
+        ManyHands y = hands(0, "put 0 1", "swap 0 0 2;again 0");
+        for (int i = 0; i < 3; i++) {
+            due(2, y.stuck());
+            due(1, y.round());
+            due(7, y.states());
+            due(1, y.change(0, 0, 0));
+            due(0, y.stuck());
+            due(0, y.round());
+            due(0, y.change(0, 0, 1));
+        }
+    }
+
     @Says(at = 22, words = "SIZE.")
     static void roundOfTooMany() {
         refused(SentencesTest::tooLarge, SIZE, ManyHands::round);
@@ -1792,6 +1920,12 @@ public final class SentencesTest {
         due(15, x.heal(2, 0));
         due(1, x.heal(0, 0));
         due(0, x.status(-1));
+    }
+
+    @Says(at = 23, words = "VALUES for which nothing is BAD")
+    static void healOfAWorstThatIsZero() {
+        due(1, worstIsZero().heal(0, 0));
+        due(NONE, worstIsZero().fences());
     }
 
     @Says(at = 23, words = "if a STEP of a CALL had one in place of its own")
@@ -2002,6 +2136,31 @@ public final class SentencesTest {
         due(SIZE, padded(15, texts).states());
     }
 
+    /** HAND 0 has seven WRITES, twice; the others make something BAD that no FENCE heals. */
+    private static ManyHands twiceSevenWrites(String... texts) {
+        ManyHands x = with(times(7, "put 2 0"), texts[0], texts[1], texts[2], texts[3]);
+        x.hand(1, 2);
+        x.hand(3, 4);
+        return x;
+    }
+
+    @Says(at = 24, words = "(a place in the CALL of its own)")
+    static void fencesHaveAPlaceInEachCallThatIsDone() {
+        // With six FENCES, twice, HAND 0 has 26 STEPS: 27 times as many STATES as the others.
+        String[] fits = {"keep;keep;put 0 1;" + keeps(4), keeps(5), keeps(7), keeps(3) + ";read 0;keep;read 0"};
+        ManyHands x = twiceSevenWrites(fits);
+        due(222, x.states());
+        x.hand(0, 0);
+        due(222 * 15, x.states());
+        due(NONE, x.fences());
+        String[] tooMany = {keeps(5) + ";put 0 1;keep", keeps(5), keeps(7), keeps(4) + ";read 0;keep;read 0"};
+        ManyHands y = twiceSevenWrites(tooMany);
+        due(223, y.states());
+        y.hand(0, 0);
+        due(223 * 15, y.states());
+        due(SIZE, y.fences());
+    }
+
     @Says(at = 24, words = "NONE.")
     static void fencesThatHealNothing() {
         refused(() -> torn("put 0 1"), NONE, ManyHands::fences);
@@ -2062,6 +2221,8 @@ public final class SentencesTest {
         due(3, tell(x, 0, 0, 1).cost(0));
         due(1 + 1 + 5 + 1, tell(x, 1, 0, 10, 0).cost(0));
         due(1 + 1 + 1 + 5 + 1, tell(x, 1, 0, 0, 10, 0).cost(0));
+        ManyHands zero = hands(1, "put 0 0;read 0", "read 0");
+        due(3, tell(zero, 1, 0, 0).cost(0));
     }
 
     @Says(at = 25, words = "a WRITE on MACHINE 1 not, but when it comes to its CELL")
@@ -2073,6 +2234,17 @@ public final class SentencesTest {
             due(1 + 1 + 5, tell(x, 0, 1, 10).cost(0));
             due(1 + 1 + 5, tell(x, 0, 10, 1).cost(0));
             due(1 + 1 + 5 + 5, tell(x, 0, 1, 10, 1).cost(0));
+        }
+    }
+
+    @Says(at = 25, words = "a WRITE on MACHINE 1 not, but when it comes to its CELL")
+    static void costOfALateWriteToEachCell() {
+        for (int cell = 0; cell < 3; cell++) {
+            for (int other = 0; other < 3; other++) {
+                ManyHands x = hands(1, "read " + other, "put " + cell + " 3", "read " + other);
+                due(3 + (cell == other ? 4 : 0), tell(x, 0, 1, 11).cost(0));
+                due(3 + (cell == other ? 4 : 0), tell(x, 1, 11, 2).cost(0));
+            }
         }
     }
 
@@ -2600,6 +2772,13 @@ public final class SentencesTest {
         }
     }
 
+    @Says(at = 33, words = "A sheet becomes the TURN of turn() (of 8 bits): how many MOVES.")
+    static void leadFromItsFirstMoveOn() {
+        ManyHands x = torn("put 0 1");
+        due(4, x.lead(1));
+        numbersAre(x, 1, 1, 0, 1, 1);
+    }
+
     /** A TURN to what is BAD has 35 MOVES and those of so many FENCES. */
     private static ManyHands longTurn(int fences) {
         ManyHands x = with(times(5, "fence") + ";add 2 1;again 0", "put 0 1;" + times(5, "fence") + ";read 1",
@@ -2675,6 +2854,25 @@ public final class SentencesTest {
         due(2, x.step(0, 3, 2));
         due(1, tell(x, 0).after(0, 13));
         due(1, x.after(0, 12));
+    }
+
+    @Says(at = 34, words = "CALLS, HANDS, FIRST VALUES and THE MACHINE are kept: 1.")
+    static void imageOfBothCallsOfAHand() {
+        int[][] pairs = {{0, -1}, {0, 0}, {0, 1}, {1, 0}, {1, -1}};
+        for (int[] kept : pairs) {
+            for (int[] other : pairs) {
+                ManyHands x = with("add 0 1", "add 1 1;add 1 1");
+                x.hand(kept[0], kept[1]);
+                x.image();
+                int states = x.states();
+                int result = x.result(0);
+                x.clear();
+                x.hand(other[0], other[1]);
+                due(2, x.undo());
+                due(states, x.states());
+                due(result, x.result(0));
+            }
+        }
     }
 
     @Says(at = 34, words = "CALLS, HANDS, FIRST VALUES and THE MACHINE are kept: 1.")
