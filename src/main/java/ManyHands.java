@@ -1020,7 +1020,7 @@ public final class ManyHands {
             count = 0;
             isTooLarge = false;
             indexOf(machine.first, -1);
-            for (int i = 0; i < count && !isTooLarge; i++) {
+            for (int i = 0; i < MOST_STATES && i < count && !isTooLarge; i++) {
                 for (int move = 0; move < MOVE_KINDS && !isTooLarge; move++) {
                     long next = machine.moved(found[i], move, machine.isLate);
                     int edge = i * MOVE_KINDS + move;
@@ -1138,7 +1138,7 @@ public final class ManyHands {
                 line[0] = 0;
                 size = 1;
             }
-            for (int taken = 0; taken < size; taken++) {
+            for (int taken = 0; taken < count && taken < size; taken++) {
                 size = takeAway(line[taken], size);
             }
             return size < count;

@@ -2047,6 +2047,20 @@ public final class SentencesTest {
         due(3, x.step(0, 4, 4));
     }
 
+    @Says(at = 24, words = "FENCE right behind them (a place in the CALL of its own)")
+    static void fencesAreGoneThroughOnceByAnAgainToTheStepBehind() {
+        // HANDS 0 and 1 have 222 STATES and something BAD that no FENCE heals. HAND 2 goes its one way: three rounds
+        // of 6 STEPS, with the FENCE ahead of the first one alone 27 STATES, ahead of each one 29.
+        ManyHands x = with("put 1 0;keep;keep;add 2 1;keep;swap 2 3 3;again 1", keeps(6),
+            "keep;keep;add 0 1;" + keeps(4), keeps(5), keeps(7), keeps(3) + ";read 0;keep;read 0");
+        x.hand(2, 3);
+        x.hand(4, 5);
+        due(222, x.states());
+        x.hand(0, 1);
+        due(222 * 26, x.states());
+        due(NONE, x.fences());
+    }
+
     @Says(at = 24, words = "WRITES being counted by CALLS, then STEPS")
     static void fencesByCallsThenSteps() {
         // HAND 1 does CALL 0, HAND 0 CALL 2: CALLS are counted, not HANDS. The third WRITE needs it.
